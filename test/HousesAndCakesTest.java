@@ -73,6 +73,8 @@ public final class HousesAndCakesTest {
     Due.due("3: cakes of 1", x.ofHouse(1, 2), 2);
     Due.due("3: GUESTS", x.ofHouse(0, 3), 16 + 4);
     Due.due("3: GUESTS of 1", x.ofHouse(1, 3), 128);
+    x.layer(4, 0);
+    Due.due("3: GUEST 0", x.ofHouse(0, 3), 16 + 4 + 1);
     Due.due("3: what 4", x.ofHouse(0, 4), Due.BEYOND);
     Due.due("3: what -1", x.ofHouse(0, -1), Due.BEYOND);
     Due.due("3: house 2", x.ofHouse(2, 0), Due.BEYOND);
@@ -107,7 +109,8 @@ public final class HousesAndCakesTest {
     Due.due("5: km 70", x.cake(70, 0), Due.BEYOND);
     Due.due("5: house 2", x.cake(0, 2), Due.BEYOND);
     Due.due("5: house -1", x.cake(0, -1), Due.BEYOND);
-    int[] km = {0, 69, 14, 23, 32, 58};
+    int[] km = {0, 69, 14, 23, 32, 48};
+    int[] thick = {5, 5, 7, 2, 5, 15};
     for (int i = 0; i < 6; i++) {
       Due.due("5: cake " + i, x.cake(km[i], i % 2), i);
       Due.due("5: KIND", x.ofCake(i, 0), km[i] / 10);
@@ -115,6 +118,7 @@ public final class HousesAndCakesTest {
       Due.due("5: HOUSE", x.ofCake(i, 2), i % 2);
       Due.due("5: LAYERS", x.ofCake(i, 3), 0);
       Due.due("5: WORN", x.ofCake(i, 4), 0);
+      Due.due("5: THICK", x.ofCake(i, 5), thick[i]);
       Due.due("5: GONE", x.ofCake(i, 7), 1);
     }
     Due.due("5: FULL", x.cake(0, 0), Due.FULL);
@@ -185,6 +189,14 @@ public final class HousesAndCakesTest {
       {2, -1, 3, 2, 4, 4, -1},
       {1, -1, -1, -1, -1, -1, -1}
     };
+    SoapNames y = new SoapNames();
+    y.house(0);
+    Due.cake(y, 69, 0, 0, 1, 2, 3);
+    y.shift(0, 1, 14);
+    Due.due("6: BLANK, the third", y.ofCake(0, 6), 2);
+    y.shift(0, 1, 15);
+    Due.due("6: BLANK after the third", y.ofCake(0, 6), -1);
+    Due.due("6: BLANK, but not GONE", y.ofCake(0, 7), 0);
     SoapNames x = new SoapNames();
     x.house(0);
     Due.cake(x, 2, 0, 1, 2, -1, 3, 2, 4);

@@ -92,8 +92,14 @@ public final class ImagesTest {
     Due.due("38: again, numbers that wait", x.count(7), 2);
     x.house(2);
     Due.due("38: a HOUSE anew", x.ofHouse(1, 0) * 10 + x.ofHouse(1, 1), 12);
-    x.cake(0, 0);
-    Due.due("38: a cake anew", x.ofCake(1, 3), 0);
+    Due.cake(x, 0, 0, 3);
+    x.shift(1, 1, 9);
+    x.restore();
+    x.cake(25, 0);
+    int[] due = {2, 5, 0, 0, 0};
+    for (int what = 0; what < due.length; what++) {
+      Due.due("38: a cake anew, what " + what, x.ofCake(1, what), due[what]);
+    }
   }
 
   private static void whatItDoesNotHold() {

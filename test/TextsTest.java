@@ -64,6 +64,11 @@ public final class TextsTest {
     Due.due("14: the other USE", Due.text(x, 1, "8"), 1);
     Due.due("14: the other USE's", x.law(1, 0, 0, 0), 8);
     Due.due("14: this one's stays", x.law(0, 0, 0, 0), 7);
+    for (int i = 1; i <= 30; i++) {
+      Due.due("14: again", Due.text(x, 0, "m*1*1*1*1*1+" + i), 1);
+      Due.due("14: again, as value", x.law(0, 2, 0, 0), i + 2);
+      Due.due("14: between them", Due.text(x, 0, "m+m+m+m+m+"), -20);
+    }
   }
 
   private static void fault(String signs, int place) {

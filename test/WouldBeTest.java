@@ -55,6 +55,9 @@ public final class WouldBeTest {
     Due.due("21: behind 5", x.comes(2, 0), 5);
     Due.due("21: by the other cake", x.comes(3, 0), 0);
     Due.due("21: not here", x.comes(1, 1), Due.NONE);
+    Due.due("21: GUEST 0 is not nobody", x.comes(0, 0), Due.NONE);
+    x.layer(2, 0);
+    Due.due("21: GUEST 0", x.comes(0, 1), 2);
     Due.due("21: nobody's", x.comes(9, 0), Due.NONE);
     Due.due("21: guest 10", x.comes(10, 0), Due.BEYOND);
     Due.due("21: guest -1", x.comes(-1, 0), Due.BEYOND);
@@ -182,6 +185,11 @@ public final class WouldBeTest {
     Due.due("25: three DAYS", x.fits(0), 1);
     x.put(0, 2, 9);
     Due.due("25: none", x.fits(0), 0);
+    x.sheet(0, 16, 4);
+    for (int i = 0; i < 4; i++) {
+      x.put(0, i, i == 3 ? 3 : i + 1);
+    }
+    Due.due("25: the last one no more", x.fits(0), 0);
     x.sheet(1, 32, 1);
     x.put(1, 0, 2);
     Due.due("25: one DAY", x.fits(1), 8);
@@ -280,6 +288,12 @@ public final class WouldBeTest {
     Due.due("27: back and on, 0", y.lends(0), 0);
     Due.due("27: back and on, 1", y.lends(1), 2);
     Due.due("27: back and on, 2", y.lends(2), 4);
+    SoapNames z = twoHouses();
+    Due.cake(z, 0, 0, 0);
+    Due.cake(z, 0, 0, 0);
+    Due.due("27: GUEST 0 twice", z.lends(0), Due.NONE);
+    Due.cake(z, 0, 0, 1);
+    Due.due("27: GUEST 0", z.lends(0) * 10 + z.lends(1), 2);
   }
 
   private static void odds() {

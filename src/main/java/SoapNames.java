@@ -668,7 +668,7 @@ public final class SoapNames {
 
   /** The set of one GUEST; nobody is the empty set. */
   private static int guestBit(int guest) {
-    return isGuest(guest) ? 1 << guest : 0;
+    return guest >= 0 && guest < GUESTS ? 1 << guest : 0;
   }
 
   private static boolean within(int v, int low, int high) {
