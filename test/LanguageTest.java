@@ -69,8 +69,8 @@ public final class LanguageTest {
         Due.so("an index that is not i: " + m.group(), m.group(2).equals("i"));
       }
     }
-    // at, setAt; by null and as answer: houseAt, cakeAt, sheetAt; filled: these three, and numbers.
-    Due.due("places with an index", many, 2 + 6 + 4);
+    // at, setAt; by null and as answer: houseAt, cakeAt, sheetAt; filled: these three.
+    Due.due("places with an index", many, 2 + 6 + 3);
   }
 
   private static void methods(String code) {

@@ -1358,7 +1358,7 @@ public final class SoapNames {
       bits = newBits;
       size = newSize;
       for (int i = 0; i < numbers.length; i++) {
-        numbers[i] = 0;
+        setAt(numbers, i, 0);
       }
     }
 
