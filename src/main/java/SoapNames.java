@@ -785,10 +785,10 @@ public final class SoapNames {
     }
 
     private int shown() {
-      if (isGone()) {
+      int out = layerOut();
+      if (out >= layers) {
         return NOBODY;
       }
-      int out = layerOut();
       switch (kind) {
         case BRIBED:
           return unbribed(nameOf(out));
