@@ -631,7 +631,8 @@ public final class SoapNames {
     thought.copyFrom(now);
     thought.stillHands(set);
     for (int day = 0; day < n; day++) {
-      if (thought.housesOf(guest) != 0) {
+      // Every cake is in some HOUSE.
+      if (thought.cakesShowing(guest) != 0) {
         return false;
       }
       thought.passDay();
