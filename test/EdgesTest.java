@@ -20,6 +20,7 @@ public final class EdgesTest {
     all50();
     lastDay();
     sets();
+    clash();
     thoughtPastTheLastDay();
     thirtyDays();
     howFar();
@@ -166,6 +167,12 @@ public final class EdgesTest {
     }
     z.shift(0, 1, 9999);
     Due.due("6: GONE as WORN as can be", z.ofCake(0, 6) * 10 + z.ofCake(0, 7), -9);
+    Due.text(z, 0, "99");
+    z.become(0, 49);
+    z.shift(0, 1, 8 * 157 - 1);
+    Due.due("6: the thickest, not GONE", z.ofCake(0, 6) * 10 + z.ofCake(0, 7), 80);
+    z.shift(0, 1, 8 * 157);
+    Due.due("6: the thickest, GONE", z.ofCake(0, 6) * 10 + z.ofCake(0, 7), -9);
   }
 
   private static void wears() {
@@ -497,6 +504,24 @@ public final class EdgesTest {
     Due.due("22: now", x.clash(0) * 100 + x.clash(1), 0);
   }
 
+  private static void clash() {
+    SoapNames x = houses(2);
+    Due.cake(x, 0, 0, 9, 5);
+    Due.cake(x, 0, 1, 8, 5);
+    Due.cake(x, 0, 0, 7, 3, 0);
+    Due.cake(x, 0, 1, 6, 3, 0);
+    Due.due("22: two at once, when", x.clash(0), 5);
+    Due.due("22: two at once, the least", x.clash(1), 3);
+    Due.due("22: it is only thought", x.twice() + x.count(2), 0);
+    x.days(5);
+    Due.due("19: two at once", x.twice(), 32 + 8);
+    Due.due("22: now", x.clash(0) * 10 + x.clash(1), 3);
+    x.days(5);
+    Due.due("22: GUEST 0", x.clash(0) * 10 + x.clash(1), 0);
+    x.days(5);
+    Due.due("22: all are GONE", x.clash(0), Due.NONE);
+  }
+
   /** DAY is 9999, and cakes wear on the DAYS behind it alone. */
   private static void thoughtPastTheLastDay() {
     SoapNames x = houses(2);
@@ -706,6 +731,14 @@ public final class EdgesTest {
     Due.due("38: the IMAGE stays", x.restore(), 0);
     Due.due("37: how often, behind a restore()", x.image(), 4);
     Due.due("38: NONE was told, and is still", x.told(2), 1);
+    Due.cake(x, 0, 0, 3);
+    x.voice(0, 1, 0);
+    x.sheet(0, 8, 1);
+    x.put(0, 0, 3);
+    x.image();
+    Due.due("37: THE TRACE stays", x.count(8) * 100 + x.trace(0), 211);
+    Due.due("37: SHEETS stay", x.judge(0), -1);
+    Due.due("37: what told() tells stays", x.told(2), 1);
   }
 
   private static void waiting() {
